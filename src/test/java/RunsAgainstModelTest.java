@@ -63,12 +63,24 @@ public final class RunsAgainstModelTest {
     /** What a later call answers is free, but it must end and not throw. */
     private static void afterTheLastCall() {
         InsolvencyPool pool = new InsolvencyPool();
-        for (int call = 0; call < 2000; call++) {
-            pool.add(150, call % 4);
-            pool.estate(1);
+        for (int call = 0; call < 5000; call++) {
+            int one = oddOr(below(9));
+            int other = oddOr(below(151));
+            pool.add(other, one);
+            pool.change(one, other);
+            pool.move(one, oddOr(below(4)));
+            pool.rule(one, oddOr(below(4)));
+            pool.estate(other);
+            pool.shareOf(one, other);
+            pool.shareUnder(one, oddOr(below(4)));
+            pool.leastEstate(one, other);
+            pool.paid(one);
             pool.next();
+            if (call % 8 == 0) {
+                pool.remove(one);
+            }
         }
-        checks.due("calls after the last end", true, true);
+        checks.due("an object after its last call still counts its creditors", pool.creditors() <= 8, true);
     }
 
     private static int oddOr(int usual) {

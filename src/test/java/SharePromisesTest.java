@@ -35,6 +35,10 @@ public final class SharePromisesTest {
             checks.due("HALVES" + at, Pools.takers(Pools.inRank(rank, HALVES, 2, 6), 9), "01111101-");
             checks.due("HALVES, odd sum" + at, Pools.takers(Pools.inRank(rank, HALVES, 1, 4), 6), "01111-");
             checks.due("HALVES, odd claims" + at, Pools.takers(Pools.inRank(rank, HALVES, 3, 3), 7), "010101-");
+            // Losses begin just at half of the sum: one unit sooner or later would go to another creditor.
+            checks.due("HALVES turn" + at, Pools.takers(Pools.inRank(rank, HALVES, 5, 7), 13), "010101110101-");
+            String many = Pools.takers(Pools.inRank(rank, HALVES, 9, 3, 3, 3), 19);
+            checks.due("HALVES of many" + at, many, "012301230000000123-");
         }
         for (int rule = 0; rule < 4; rule++) {
             checks.due("claims of nothing, rule " + rule, Pools.takers(Pools.inRank(0, rule, 0, 0), 2), "--");
@@ -176,6 +180,9 @@ public final class SharePromisesTest {
         checks.due("16: nobody", pool.left(), 1500);
         pool.add(0, 0);
         checks.due("16: a claim of 0", pool.left(), 1500);
+        pool.change(0, 7);
+        checks.due("16: a claim of 7", pool.left(), 1493);
+        pool.change(0, 0);
         pool.add(150, 3);
         pool.add(100, 0);
         checks.due("16: two claims", pool.left(), 1250);
@@ -224,6 +231,7 @@ public final class SharePromisesTest {
             checks.due("19: at " + estate, pool.worst(), due[estate]);
             pool.estate(1);
         }
+        checks.due("19: the first has the greatest", Pools.inRank(2, EQUAL, 9, 8).worst(), 9);
         checks.due("19: nobody", new InsolvencyPool().worst(), 0);
     }
 
